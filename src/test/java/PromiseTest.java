@@ -1,67 +1,5 @@
 /** Runs by hand for each promise of the document: ordinary inputs, edges, wrong inputs. */
-public final class PromiseTest {
-    private static final int INVALID = -1;
-    private static final int NOT_POSSIBLE = -2;
-    private static final int LIMIT = -3;
-    private static final int NOT_FOUND = -4;
-
-    private static final int UP = 0;
-    private static final int RIGHT = 1;
-    private static final int DOWN = 2;
-    private static final int LEFT = 3;
-
-    private static String test = "";
-    private static int wrong = 0;
-
-    private static void due(String call, int got, int want) {
-        if (got != want) {
-            wrong++;
-            System.out.println(test + ": " + call + " answered " + got + ", due is " + want);
-        }
-    }
-
-    private static void type(PortraitMazes x, String text) {
-        x.clearText();
-        for (int i = 0; i < text.length(); i++) {
-            due("type of " + text + " at " + i, x.type(text.charAt(i)), i + 1);
-        }
-    }
-
-    private static PortraitMazes picture(String text, int cells) {
-        PortraitMazes x = new PortraitMazes();
-        type(x, text);
-        due("read() of " + text, x.read(), cells);
-        return x;
-    }
-
-    /** Carves from numbers of passages. */
-    private static void carve(PortraitMazes x, int... places) {
-        for (int place : places) {
-            int parts = x.count(3);
-            due("carve of " + place, x.carve(place / 2, place % 2 == 0 ? RIGHT : DOWN), parts - 1);
-        }
-    }
-
-    private static void dueWay(PortraitMazes x, int... cells) {
-        due("drawn(0)", x.drawn(0), cells.length == 0 ? NOT_FOUND : cells.length);
-        for (int i = 0; i < cells.length; i++) {
-            due("way(" + i + ")", x.way(i), cells[i]);
-        }
-        due("way behind the end", x.way(cells.length), NOT_FOUND);
-    }
-
-    private static void dueFault(String text, int place, int reason) {
-        PortraitMazes x = new PortraitMazes();
-        type(x, text);
-        due("fault(0) of " + text, x.fault(0), place);
-        due("fault(1) of " + text, x.fault(1), reason);
-        if (reason > 0) {
-            due("read() of " + text, x.read(), NOT_POSSIBLE);
-            due("states after that", x.count(7), 0);
-            due("columns after that", x.count(0), 4);
-        }
-    }
-
+public final class PromiseTest extends Checks {
     private static void constants() {
         due("INVALID_ARGUMENT", PortraitMazes.INVALID_ARGUMENT, -1);
         due("NOT_POSSIBLE", PortraitMazes.NOT_POSSIBLE, -2);
@@ -403,12 +341,6 @@ public final class PromiseTest {
         due("between(0, 16)", x.between(0, 16), INVALID);
     }
 
-    private static void dueFarthest(PortraitMazes x, int lower, int higher, int passages) {
-        due("farthest(0)", x.farthest(0), lower);
-        due("farthest(1)", x.farthest(1), higher);
-        due("farthest(2)", x.farthest(2), passages);
-    }
-
     private static void promise15Farthest() {
         PortraitMazes x = new PortraitMazes();
         dueFarthest(x, NOT_FOUND, NOT_FOUND, NOT_FOUND);
@@ -425,12 +357,6 @@ public final class PromiseTest {
         dueFarthest(comb, 12, 15, 9);
     }
 
-    private static void dueBest(PortraitMazes x, int taken, int made, int fault) {
-        due("best(0)", x.best(0), taken);
-        due("best(1)", x.best(1), made);
-        due("best(2)", x.best(2), fault);
-    }
-
     private static void promise16Best() {
         PortraitMazes x = picture("99/00", 4);
         due("best(0) of parts", x.best(0), NOT_POSSIBLE);
@@ -445,12 +371,6 @@ public final class PromiseTest {
         dueBest(other, 1, 3, 9);
         other.door(1, 0, UP);
         dueBest(other, 0, 3, 9);
-    }
-
-    private static void dueBestExit(PortraitMazes x, int cell, int side, int fault) {
-        due("bestExit(0)", x.bestExit(0), cell);
-        due("bestExit(1)", x.bestExit(1), side);
-        due("bestExit(2)", x.bestExit(2), fault);
     }
 
     private static void promise17BestExit() {
@@ -646,11 +566,6 @@ public final class PromiseTest {
         picture("987654/123456/123456/123456/123456/123450", 36);
     }
 
-    private static void run(String name, Runnable body) {
-        test = name;
-        body.run();
-    }
-
     public static void main(String[] args) {
         run("the constants", PromiseTest::constants);
         run("promise 1", PromiseTest::promise1NewObject);
@@ -677,9 +592,6 @@ public final class PromiseTest {
         run("promise 22", PromiseTest::promise22ClearText);
         run("promise 23", PromiseTest::promise23Fault);
         run("promise 24", PromiseTest::promise24Read);
-        System.out.println(wrong == 0 ? "all answers are as due" : wrong + " answers are not as due");
-        if (wrong != 0) {
-            System.exit(1);
-        }
+        end();
     }
 }
