@@ -4,6 +4,7 @@ import java.lang.reflect.Method;
 import java.lang.reflect.Modifier;
 import java.nio.file.Files;
 import java.nio.file.Path;
+import java.util.Arrays;
 import java.util.Set;
 import java.util.TreeSet;
 import java.util.regex.Matcher;
@@ -20,6 +21,8 @@ public final class LanguageTest {
         "cellOf", "doorOf", "count", "way", "drawn", "between", "farthest", "best", "bestExit", "keep", "restore",
         "undo", "type", "clearText", "fault", "read");
     private static final Set<String> CONSTANTS = Set.of("INVALID_ARGUMENT", "NOT_POSSIBLE", "LIMIT_REACHED", "NOT_FOUND");
+
+    private static final Pattern METHOD = Pattern.compile("(    |        )(?! )[\\w \\[\\]]+\\(.*\\) \\{");
 
     private static int wrong = 0;
 
@@ -44,6 +47,34 @@ public final class LanguageTest {
                 "import of " + name);
         }
         due(text.chars().allMatch(sign -> sign < 128), "a sign above 127");
+        methodLengths(text);
+    }
+
+    /** A method's head and its closing brace are indented alike: by 4 in the public class, by 8 in one inside it. */
+    private static void methodLengths(String text) {
+        String[] lines = text.split("\n");
+        int found = 0;
+        for (int first = 0; first < lines.length; first++) {
+            Matcher head = METHOD.matcher(lines[first]);
+            if (head.matches()) {
+                found++;
+                int last = first;
+                while (last < lines.length && !lines[last].equals(head.group(1) + "}")) {
+                    last++;
+                }
+                due(last - first < 60, "more than sixty lines: " + lines[first].strip());
+            }
+        }
+        due(found > FACE.size(), "only " + found + " methods found");
+    }
+
+    private static void limits(Class<?> made) {
+        long fields = Arrays.stream(made.getDeclaredFields())
+            .filter(field -> !Modifier.isStatic(field.getModifiers())).count();
+        due(fields <= 20, "more than twenty fields: " + made);
+        for (Method method : made.getDeclaredMethods()) {
+            due(method.getParameterCount() <= 7, "more than seven parameters: " + method);
+        }
     }
 
     private static void face() {
@@ -69,9 +100,11 @@ public final class LanguageTest {
         due(constants.equals(CONSTANTS), "the public fields are " + constants);
         due(Modifier.isFinal(mazes.getModifiers()), "the class is not final");
         due(mazes.getDeclaredConstructors().length == 1, "more than one constructor");
-        due(mazes.getDeclaredClasses().length <= 12, "more than twelve classes");
+        due(mazes.getDeclaredClasses().length < 12, "more than twelve classes");
+        limits(mazes);
         for (Class<?> inside : mazes.getDeclaredClasses()) {
             due(Modifier.isStatic(inside.getModifiers()), "not static: " + inside);
+            limits(inside);
             for (Method method : inside.getDeclaredMethods()) {
                 due(!FACE.contains(method.getName()), "name of a public one: " + method.getName());
             }

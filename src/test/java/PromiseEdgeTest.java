@@ -299,7 +299,9 @@ public final class PromiseEdgeTest extends Edges {
         carve(x, 3, 8, 10, 11);
         due("cellOf(5, 1)", x.cellOf(5, 1), 15);
         due("cellOf(9, 2)", x.cellOf(9, 2), 1);
+        due("cellOf(15, 3), its own part", x.cellOf(15, 3), 1);
         due("cellOf(9, 3)", x.cellOf(9, 3), 5);
+        due("cellOf(15, 2), its own part", x.cellOf(15, 2), 15);
         x.build();
         due("cellOf(15, 2), all one part", x.cellOf(15, 2), 0);
         due("cellOf(15, 3), all one part", x.cellOf(15, 3), 16);
@@ -466,6 +468,9 @@ public final class PromiseEdgeTest extends Edges {
         carve(two, 0);
         two.door(1, 1, UP);
         due("drawn(4), one passage", two.drawn(4), 0);
+        carve(two, 3);
+        two.door(1, 3, RIGHT);
+        due("drawn(4), a corner behind the first passage", two.drawn(4), 1);
     }
 
     // ---- promise 14
@@ -777,6 +782,10 @@ public final class PromiseEdgeTest extends Edges {
         type(x, "12/34/56");
         x.read();
         dueDoors(x, 0, LEFT, 5, RIGHT);
+        x.door(0, 1, UP);
+        x.door(1, 4, DOWN);
+        x.read();
+        dueDoors(x, 0, LEFT, 5, RIGHT);
     }
 
     private static void readTwice() {
@@ -918,7 +927,7 @@ public final class PromiseEdgeTest extends Edges {
         edge("Promise 24", "NOT_POSSIBLE if the text has a fault", "all kinds", PromiseEdgeTest::readWithAFault);
         edge("Promise 24", "Returns how many cells there are", "least, greatest", PromiseEdgeTest::readSizes);
         edge("Promise 24", "without passages", "the same size", PromiseEdgeTest::readWithoutPassages);
-        edge("Promise 24", "with the doors as at first", "another size", PromiseEdgeTest::readDoorsAsAtFirst);
+        edge("Promise 24", "with the doors as at first", "another size, the same", PromiseEdgeTest::readDoorsAsAtFirst);
         edge("Promise 24", "the text stays", "twice", PromiseEdgeTest::readTwice);
     }
 

@@ -89,10 +89,18 @@ public final class TermsEdgeTest extends Edges {
         due("carve(5, DOWN)", wide.carve(5, DOWN), 11);
         due("between(5, 11)", wide.between(5, 11), 1);
         due("tone of the first in the row 1", wide.cellOf(6, 0), 7);
+        due("carve(2, UP), in the row 0", wide.carve(2, UP), NOT_POSSIBLE);
+        due("carve(8, DOWN), in the row 1", wide.carve(8, DOWN), NOT_POSSIBLE);
+        due("carve(8, UP)", wide.carve(8, UP), 10);
+        due("between(8, 2)", wide.between(8, 2), 1);
         PortraitMazes high = picture("12/34/56/78/90/12", 12);
         due("carve(1, DOWN)", high.carve(1, DOWN), 11);
         due("between(1, 3)", high.between(1, 3), 1);
         due("tone of the first in the row 1", high.cellOf(2, 0), 3);
+        due("carve(4, UP)", high.carve(4, UP), 10);
+        due("between(4, 2)", high.between(4, 2), 1);
+        due("carve(2, LEFT)", high.carve(2, LEFT), NOT_POSSIBLE);
+        due("carve(3, RIGHT)", high.carve(3, RIGHT), NOT_POSSIBLE);
     }
 
     private static void lightestTone() {
@@ -376,7 +384,12 @@ public final class TermsEdgeTest extends Edges {
 
     private static void walkCanGoNowhere() {
         PortraitMazes x = new PortraitMazes();
-        due("drawn(2)", x.drawn(2), NOT_FOUND);
+        for (int cell = 1; cell < 16; cell++) {
+            for (int side = UP; side <= LEFT; side++) {
+                x.door(1, cell, side);
+                due("drawn(2) to " + cell, x.drawn(2), NOT_FOUND);
+            }
+        }
         due("cellOf(0, 6)", x.cellOf(0, 6), NOT_FOUND);
     }
 
@@ -482,6 +495,20 @@ public final class TermsEdgeTest extends Edges {
         x.build();
         due("cellOf(0, 1)", x.cellOf(0, 1), 6);
         due("cellOf(3, 1)", x.cellOf(3, 1), 1);
+    }
+
+    private static void buildsAfterAnotherPicture() {
+        PortraitMazes x = four("00/09");
+        x.build();
+        type(x, "000/000");
+        x.read();
+        due("build()", x.build(), 5);
+        due("cellOf(0, 1)", x.cellOf(0, 1), 6);
+        type(x, "99/00/99");
+        x.read();
+        due("build()", x.build(), 5);
+        due("cellOf(4, 1)", x.cellOf(4, 1), 3);
+        due("cellOf(5, 1)", x.cellOf(5, 1), 8);
     }
 
     private static void exchangeNotTheSame() {
@@ -622,6 +649,7 @@ public final class TermsEdgeTest extends Edges {
         edge(BUILDING, "until the maze is whole", "all and one", TermsEdgeTest::buildsUntilWhole);
         edge(BUILDING, "the greatest sum of both tones", "sums", TermsEdgeTest::buildsTheGreatestSum);
         edge(BUILDING, "of several that with the lowest number", "all alike", TermsEdgeTest::buildsTheLowestOfSeveral);
+        edge(BUILDING, "until the maze is whole", "another size", TermsEdgeTest::buildsAfterAnotherPicture);
         edge(BUILDING, "another one (not the same)", "all alike", TermsEdgeTest::exchangeNotTheSame);
         edge(BUILDING, "so that the maze is whole afterwards", "whole", TermsEdgeTest::exchangeLeavesItWhole);
         edge(BUILDING, "only a whole maze has exchanges", "two", TermsEdgeTest::onlyAWholeMazeHasExchanges);

@@ -55,6 +55,15 @@ public final class TextsEdgeTest extends Edges {
         dueFault(LARGEST, NOT_FOUND, NOT_FOUND);
     }
 
+    private static void rowsAsLongAsTheFirstOfThisText() {
+        PortraitMazes x = picture(LARGEST, 36);
+        type(x, "12/34");
+        due("fault(1) of a smaller one", x.fault(1), NOT_FOUND);
+        due("read() of a smaller one", x.read(), 4);
+        type(x, "123/456/789");
+        due("read() of a larger one", x.read(), 9);
+    }
+
     private static void firstFaultFromTheLeft() {
         dueFault("1x3/4y", 1, 1);
         dueFault("x234567", 0, 1);
@@ -163,6 +172,8 @@ public final class TextsEdgeTest extends Edges {
         edge(TEXTS, "rows of digits (tones)", "all characters", TextsEdgeTest::digits);
         edge(TEXTS, "with \"/\" between two", "before, behind, twice, none", TextsEdgeTest::slashBetweenTwo);
         edge(TEXTS, "all of them as long as the first one", "shorter, longer", TextsEdgeTest::rowsAsLongAsTheFirst);
+        edge(TEXTS, "all of them as long as the first one", "after another text",
+            TextsEdgeTest::rowsAsLongAsTheFirstOfThisText);
         edge(TEXTS, "the first one from the left", "several faults", TextsEdgeTest::firstFaultFromTheLeft);
         String place = "1: a character that cannot stand at its place";
         edge(TEXTS, place, "no digit", TextsEdgeTest::characterInAnyRow);
