@@ -296,6 +296,9 @@ public final class PromiseEdgeTest extends Edges {
         due("cellOf(5, 1)", x.cellOf(5, 1), 0);
         due("cellOf(5, 2), its own part", x.cellOf(5, 2), 5);
         due("cellOf(5, 3), its own part", x.cellOf(5, 3), 1);
+        carve(x, 23);
+        due("cellOf(15, 2), one passage, to the lowest", x.cellOf(15, 2), 11);
+        x.wall(15, UP);
         carve(x, 3, 8, 10, 11);
         due("cellOf(5, 1)", x.cellOf(5, 1), 15);
         due("cellOf(9, 2)", x.cellOf(9, 2), 1);
@@ -646,6 +649,23 @@ public final class PromiseEdgeTest extends Edges {
         due("restore()", x.restore(), 0);
     }
 
+    private static void restoreEverything() {
+        PortraitMazes x = new PortraitMazes();
+        x.tone(5, 7);
+        carve(x, 13);
+        x.door(0, 1, UP);
+        x.door(1, 12, DOWN);
+        x.keep();
+        type(x, "98/76");
+        x.read();
+        x.build();
+        due("restore()", x.restore(), 1);
+        dueCounts(x, 4, 4, 1, 15, 0, 2, 7, 4, 5, 1);
+        dueDoors(x, 1, UP, 12, DOWN);
+        due("cellOf(5, 0)", x.cellOf(5, 0), 7);
+        due("cellOf(6, 1)", x.cellOf(6, 1), 4);
+    }
+
     private static void restoreOfNone() {
         PortraitMazes x = new PortraitMazes();
         due("restore()", x.restore(), NOT_POSSIBLE);
@@ -909,6 +929,7 @@ public final class PromiseEdgeTest extends Edges {
         edge("Promise 18", "in place of the one that was", "three", PromiseEdgeTest::keepInPlace);
 
         edge("Promise 19", "NOT_POSSIBLE if there is none", "none", PromiseEdgeTest::restoreOfNone);
+        edge("Promise 19", "Restores the state of the snapshot", "all of it", PromiseEdgeTest::restoreEverything);
         edge("Promise 19", "which stays", "many times", PromiseEdgeTest::restoreStays);
 
         edge("Promise 20", "NOT_POSSIBLE if it is empty", "empty", PromiseEdgeTest::undoOfNone);

@@ -498,8 +498,11 @@ public final class TermsEdgeTest extends Edges {
     }
 
     private static void buildsAfterAnotherPicture() {
-        PortraitMazes x = four("00/09");
-        x.build();
+        PortraitMazes x = four("00/91");
+        due("build()", x.build(), 3);
+        due("read() of the same", x.read(), 4);
+        due("build() of the same", x.build(), 3);
+        due("cellOf(0, 1) of the same", x.cellOf(0, 1), 4);
         type(x, "000/000");
         x.read();
         due("build()", x.build(), 5);
