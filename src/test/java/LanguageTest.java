@@ -24,6 +24,9 @@ public final class LanguageTest {
 
     private static final Pattern METHOD = Pattern.compile("(    |        )(?! )[\\w \\[\\]]+\\(.*\\) \\{");
 
+    private static final Pattern CONSTRUCTOR = Pattern.compile(" +(public )?[A-Z]\\w*\\(.*\\) \\{");
+    private static final Pattern MAKES = Pattern.compile("\\bnew\\b|\\.clone\\(|\\bcopyOf|\\bvalues\\(");
+
     private static int wrong = 0;
 
     private static void due(boolean holds, String what) {
@@ -48,6 +51,25 @@ public final class LanguageTest {
         }
         due(text.chars().allMatch(sign -> sign < 128), "a sign above 127");
         methodLengths(text);
+        objectsOfCalls(code);
+    }
+
+    /** All rows are made once: what makes an object stands in fields and constructors alone. */
+    private static void objectsOfCalls(String code) {
+        String end = "";
+        boolean inCall = false;
+        for (String line : code.split("\n")) {
+            Matcher head = METHOD.matcher(line);
+            if (end.isEmpty() && head.matches()) {
+                end = head.group(1) + "}";
+                inCall = !CONSTRUCTOR.matcher(line).matches();
+            }
+            due(!inCall || !MAKES.matcher(line).find(), "a call makes an object: " + line.strip());
+            if (line.equals(end)) {
+                end = "";
+                inCall = false;
+            }
+        }
     }
 
     /** A method's head and its closing brace are indented alike: by 4 in the public class, by 8 in one inside it. */

@@ -333,6 +333,17 @@ public final class PromiseEdgeTest extends Edges {
         }
     }
 
+    private static void cellOfOnTheWayOnceJoined() {
+        PortraitMazes x = light();
+        due("bestExit(0), the entry's cell alone is joined", x.bestExit(0), 0);
+        carve(x, 0, 3);
+        due("cellOf(1, 5)", x.cellOf(1, 5), 1);
+        due("cellOf(3, 5)", x.cellOf(3, 5), 1);
+        due("cellOf(2, 5), not joined", x.cellOf(2, 5), 0);
+        x.wall(1, DOWN);
+        due("cellOf(1, 5), not joined any more", x.cellOf(1, 5), 0);
+    }
+
     private static void cellOfFailedWalk() {
         PortraitMazes x = light();
         for (int cell = 0; cell < 4; cell++) {
@@ -666,6 +677,19 @@ public final class PromiseEdgeTest extends Edges {
         due("cellOf(6, 1)", x.cellOf(6, 1), 4);
     }
 
+    private static void restoreFewerRowsThanColumns() {
+        PortraitMazes x = picture("123456/789012", 12);
+        carve(x, 11, 20);
+        x.keep();
+        type(x, "12/34/56");
+        x.read();
+        due("restore()", x.restore(), 2);
+        dueCounts(x, 6, 2, 2, 10, 0, 2, 48, 4);
+        due("cellOf(11, 0)", x.cellOf(11, 0), 2);
+        due("between(5, 10)", x.between(5, 10), 2);
+        dueDoors(x, 0, LEFT, 11, RIGHT);
+    }
+
     private static void restoreOfNone() {
         PortraitMazes x = new PortraitMazes();
         due("restore()", x.restore(), NOT_POSSIBLE);
@@ -711,6 +735,19 @@ public final class PromiseEdgeTest extends Edges {
         due("cellOf(0, 0)", x.cellOf(0, 0), 1);
         due("undo()", x.undo(), 0);
         due("cellOf(0, 0)", x.cellOf(0, 0), 0);
+    }
+
+    private static void undoFewerColumnsThanRows() {
+        PortraitMazes x = picture("12/34/56", 6);
+        carve(x, 7);
+        x.read();
+        due("undo()", x.undo(), 2);
+        dueCounts(x, 2, 3, 1, 5, 0, 2, 21, 2);
+        due("between(3, 5)", x.between(3, 5), 1);
+        due("undo()", x.undo(), 1);
+        due("undo(), as many columns as rows", x.undo(), 0);
+        dueCounts(x, 4, 4, 0, 16);
+        dueDoors(x, 0, LEFT, 15, RIGHT);
     }
 
     // ---- promises 21 to 24
@@ -868,6 +905,8 @@ public final class PromiseEdgeTest extends Edges {
         edge("Promise 9", "NOT_FOUND for 4 if it is not joined with the cell of the entry", "joined or not",
             PromiseEdgeTest::cellOfNotJoinedWithTheEntry);
         edge("Promise 9", "1 if it is on the way, otherwise 0", "both", PromiseEdgeTest::cellOfOnTheWay);
+        edge("Promise 9", "1 if it is on the way, otherwise 0", "joined later",
+            PromiseEdgeTest::cellOfOnTheWayOnceJoined);
         edge("Promise 9", "for 6 if the walk has failed", "failed", PromiseEdgeTest::cellOfFailedWalk);
 
         edge("Promise 10", "`door`: 0 or 1", "both, too small, too large", PromiseEdgeTest::doorOfDoors);
@@ -930,9 +969,13 @@ public final class PromiseEdgeTest extends Edges {
 
         edge("Promise 19", "NOT_POSSIBLE if there is none", "none", PromiseEdgeTest::restoreOfNone);
         edge("Promise 19", "Restores the state of the snapshot", "all of it", PromiseEdgeTest::restoreEverything);
+        edge("Promise 19", "Restores the state of the snapshot", "6 by 2",
+            PromiseEdgeTest::restoreFewerRowsThanColumns);
         edge("Promise 19", "which stays", "many times", PromiseEdgeTest::restoreStays);
 
         edge("Promise 20", "NOT_POSSIBLE if it is empty", "empty", PromiseEdgeTest::undoOfNone);
+        edge("Promise 20", "Restores the latest state of the history", "2 by 3, 4 by 4",
+            PromiseEdgeTest::undoFewerColumnsThanRows);
         edge("Promise 20", "which is removed from it", "change, undo, change", PromiseEdgeTest::undoRemoves);
 
         edge("Promise 21", "`character`: 32 to 126", "all", PromiseEdgeTest::typeCharacters);
